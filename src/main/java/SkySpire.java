@@ -1615,7 +1615,7 @@ public final class SkySpire {
 
         private int bestParting(Told told, int what) {
             int best = 0;
-            int fewest = Integer.MAX_VALUE;
+            int fewest = MAX_RULES + 2;
             for (int cell = 0; cell < told.cells; cell++) {
                 int most = 0;
                 for (int i = 0; i <= MAX_PENS; i++) {

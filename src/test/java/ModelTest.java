@@ -178,13 +178,21 @@ public final class ModelTest {
             case 1, 2 -> tell(ruleText()) && same("rule", x.rule(), y.rule());
             case 3, 4, 5 -> same("force " + r, x.force(r), y.force(r));
             case 6 -> same("image " + k, x.image(k), y.image(k));
-            case 7 -> same("back " + k, x.back(k), y.back(k));
+            case 7 -> same("back " + k, x.back(k), y.back(k)) && undoSome();
             case 8 -> {
                 int n = random.nextInt(3) == 0 ? random.nextInt() : upTo(9);
                 yield same("seed " + n, x.seed(n), y.seed(n));
             }
             default -> noteOne();
         };
+    }
+
+    private boolean undoSome() {
+        boolean good = same("ruled 0", x.ruled(0), y.ruled(0));
+        for (int i = upTo(12); good && i > 0; i--) {
+            good = same("undo", x.undo(), y.undo());
+        }
+        return good;
     }
 
     private boolean noteOne() {

@@ -260,6 +260,8 @@ public final class PromiseTest {
         due(">", 7, writers("write 1 if not 1>2 and not 2>2 and 3>2"));
         due("and binds first", 7, writers("write 1 if 1=1 or 1=1 and 1=2"));
         due("and binds first", 7, writers("write 1 if 1=2 and 1=2 or 1=1"));
+        due("not of what holds", 0, writers("write 1 if not 1=1"));
+        due("not not", 7, writers("write 1 if not not 1=1 and 1=1"));
         due("brackets", 0, writers("write 1 if [1=1 or 1=1] and 1=2"));
         due("not binds first", 0, writers("write 1 if not 1=1 and 1=2"));
         due("not of brackets", 7, writers("write 1 if not [1=1 and 1=2]"));
@@ -613,6 +615,9 @@ public final class PromiseTest {
         due("least as bits", 1, x.hold(1, 0));
         x = told("sky 2 60;pen 0 9;pen 1 9;pen 2 9;mark 3");
         due("all", 7, x.hold(1, 0));
+        x = told("sky 2 60;pen 0 9;pen 0 9;pen 0 9;mark 0");
+        due("one STAYED does not do", 3, x.hold(1, 0));
+        due("two of three", 4, x.hold(1, 1));
         due("n 0", -1, x.hold(0, 0));
         due("n 61", -1, x.hold(61, 0));
         due("what", -1, x.hold(1, 2));
@@ -675,6 +680,13 @@ public final class PromiseTest {
         due("FORCE goes along", 4, x.change(1, 0));
         x = told("sky 2 60;mark 1");
         due("without winds", 3, x.change(60, 0));
+        due("without winds", -1, x.change(60, 1));
+        due("without SKY: what 0", -2, new SkySpire().change(1, 0));
+        x = told("sky 3 60;pen 0 0;wind 1 9;wind 1 9;wind 2 9;wind 2 9;mark 3;mark 4;mark 7");
+        due("the first with the last: 3, 4, 7", 9, x.change(3, 0));
+        due("the first", 0, x.change(3, 1));
+        due("the last", 3, x.change(3, 2));
+        x = told("sky 2 60;mark 1");
         due("without winds", -1, x.change(60, 2));
         due("n 0", -2, x.change(0, 0));
         due("n 61", -2, x.change(61, 0));
@@ -850,6 +862,8 @@ public final class PromiseTest {
         due("what it was", 2147483647, x.seed(5));
         due("below 0", -1, x.seed(-1));
         due("nothing happened", 5, x.count(13));
+        due("0 again", 5, x.seed(0));
+        due("0", 0, x.count(13));
     }
 
     // From 0 the DRAWS are 0, 21468, 9988, 22117, 3498, 16927, 16045, 19741.
@@ -953,6 +967,40 @@ public final class PromiseTest {
         due("STAYED", 2, x.count(10));
     }
 
+    private static void promise33BackToOtherRows() {
+        SkySpire x = ruled("sky 3 9;pen 0 9;pen 4 9", "write 0");
+        x.bend(0, 1);
+        x.set(0, 5);
+        x.stay(1);
+        x.note(1, 4, -1);
+        x.image(0);
+        for (int i = 0; i < 25; i++) {
+            x.set(1, i % 3);
+        }
+        x.note(-1, 0, 0);
+        x.note(2, 0, 0);
+        x.note(0, 8, -1);
+        x.image(1);
+        x.back(0);
+        due("its NOTE: RULE 0", 1, x.ruled(0));
+        due("its NOTE: RULE 0", 0, x.ruled(1));
+        due("its last ACT", 2, x.undo());
+        due("STAYED no more", 0, x.count(10));
+        due("CELL of 1", 4, x.pen(1, 0));
+        due("SET", 1, x.undo());
+        due("CELL of 0", 0, x.pen(0, 0));
+        due("BENT yet", 1, x.pen(0, 1));
+        due("BEND", 0, x.undo());
+        due("as told", 9, x.pen(0, 1));
+        x.back(1);
+        due("the other NOTES: none", -1, x.ruled(1));
+        due("20 ACTS", 20, x.count(12));
+        for (int i = 19; i >= 0; i--) {
+            due("undone", i, x.undo());
+            due("CELL of 1", (i + 4) % 3, x.pen(1, 0));
+        }
+    }
+
     public static void main(String[] args) {
         promise1New();
         promise2Feed();
@@ -994,6 +1042,7 @@ public final class PromiseTest {
         promise31Count();
         promise32Image();
         promise33Back();
+        promise33BackToOtherRows();
         T.close("PromiseTest");
     }
 }
