@@ -735,6 +735,11 @@ public final class PromiseTest {
         due("n 0", -1, x.rests(0, 1, 0, 0));
         due("n 21", -1, x.rests(0, 1, 21, 0));
         due("n 20", 16, told("sky 2 1;pen 0 0;pen 3 0;wind 1 9").rests(0, 1, 20, 0));
+        SkySpire y = ruled("sky 4 5;pen 2 9;pen 3 9;wind 3 3;wind 3 9", "write column+pen");
+        y.force(0);
+        due("no rest: each goes round behind the other", 0, y.rests(0, 1, 3, 0));
+        due("the first of none", -2, y.rests(0, 1, 3, 1));
+        due("the first of none", -2, y.rests(0, 1, 3, 2));
         due("what", -1, x.rests(0, 1, 1, 3));
         due("what below", -1, x.rests(0, 1, 1, -1));
     }
