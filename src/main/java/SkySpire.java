@@ -1419,8 +1419,10 @@ public final class SkySpire {
                 trial.copyFrom(world.scene);
                 trial.stayed |= world.told.allPens() & ~(1 << pen);
                 for (int i = 0; i < n && (bits >> pen & 1) == 0; i++) {
+                    int today = trial.day;
                     days.one(world.told, trial, rule);
-                    if (trial.owner[cell] == pen) {
+                    // A STROKE of an earlier DAY was not left in these.
+                    if (trial.owner[cell] == pen && trial.since[cell] == today) {
                         bits |= 1 << pen;
                     }
                 }

@@ -619,8 +619,10 @@ final class Model {
                     s.stayed(q, true);
                 }
             }
-            for (int i = 1; i <= n; i++) {
-                if (s.after(i, rule0()).at(cell) == p) {
+            for (int i = 0; i < n; i++) {
+                // Alone it never claps, and no STROKE fades on its own DAY: to write there is to leave one.
+                boolean writes = (s.pass(rule0()) >> p & 1) == 1;
+                if (writes && s.pens.get(p).cell == cell) {
                     bits |= 1 << p;
                 }
             }

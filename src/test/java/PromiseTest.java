@@ -644,6 +644,29 @@ public final class PromiseTest {
         due("by the RULE", 0, x.wrote(1, 9));
         due("by the RULE", 4, x.wrote(8, 9));
         due("without a SKY", -1, new SkySpire().wrote(0, 1));
+        promise19WroteOnEarlierDays();
+    }
+
+    private static void promise19WroteOnEarlierDays() {
+        SkySpire x = told("sky 3 60;pen 0 0;pen 8 9;wind 1 8;wind 3 8");
+        x.day();
+        due("its STROKE of DAY 0", 0, x.cell(1, 0));
+        due("is there at the end of DAY 1", 0, x.ahead(1, 1, 0));
+        due("but was left ahead of it", 0, x.wrote(1, 1));
+        due("it comes again on DAY 2", 1, x.wrote(1, 2));
+        due("the one of DAY 1", 1, x.wrote(0, 1));
+        due("in its own place again", 2, x.wrote(8, 1));
+        x.stay(1);
+        due("one that is STAYED leaves none, though one is there", 0, x.wrote(8, 60));
+        Texts.rule(x, "write 0");
+        x.force(0);
+        due("nor one that never WRITES", 0, x.wrote(1, 60));
+        x.force(-1);
+        x.blot(1);
+        due("a BLOT does not matter", 1, x.wrote(1, 2));
+        x.undo();
+        x.undo();
+        due("UNDONE", 2, x.wrote(8, 1));
     }
 
     private static void promise20Came() {
