@@ -152,6 +152,8 @@ final class AskBounds {
 
     private void sign() {
         b.due("no MARK: this one", 0, Bounds.told("sky 2 60").sign());
+        b.due("no MARK in 36 CELLS", 0, Bounds.told("sky 6 60").sign());
+        b.due("in the last of 36", 1, Bounds.told("sky 6 60;pen 35 9;mark 35").sign());
         b.due("the next", 1, Bounds.told(ONE).sign());
         b.due("this one", 1, Bounds.after(Bounds.told(ONE), 1).sign());
         b.due("the last of 100", 99, Bounds.by(ONE, "write 1 if day=98").sign());
@@ -173,6 +175,7 @@ final class AskBounds {
 
     private void clean() {
         b.due("no MARK, no STROKE: this one", 0, Bounds.told("sky 2 60").clean());
+        b.due("in the last of 36", 1, Bounds.told("sky 6 60;pen 35 9;mark 35").clean());
         b.due("no MARK, a STROKE", -2, Bounds.after(Bounds.told("sky 2 60;pen 0 9"), 1).clean());
         b.due("the next", 1, Bounds.told(ONE).clean());
         b.due("this one", 1, Bounds.after(Bounds.told(ONE), 1).clean());
@@ -360,6 +363,9 @@ final class AskBounds {
         b.due("the winds stay", 2, x.ahead(0, 11, 1));
         x = Bounds.told("sky 2 60;pen 0 5;wind 1 4;wind 1 5;mark 1");
         changeIs("FORCE with its WAY", x, 1, 4, 0, 1);
+        x = Bounds.told("sky 3 60;pen 0 5;wind 1 9;wind 2 4;mark 0;mark 1");
+        changeIs("both FORCES", x, 2, 9, 0, 1);
+        changeIs("both FORCES, asked again", x, 2, 9, 0, 1);
         x = Bounds.told("sky 2 60;pen 0 0;wind 1 0;wind 2 0;mark 3");
         x.day();
         x.blot(1);

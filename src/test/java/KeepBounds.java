@@ -237,6 +237,8 @@ final class KeepBounds {
         x = Bounds.told("sky 6 9;pen 35 9");
         Texts.rule(x, "write 0");
         lookIs("the last of 36", x, 1, 35, 1);
+        x = Bounds.by("sky 6 9" + ";pen 0 9".repeat(4) + ";pen 35 9", "write 1 if pen=4");
+        lookIs("the last PEN's in the last of 36, alike", x, 1, 0, 2);
     }
 
     private void noRuleIsSo() {
@@ -355,12 +357,14 @@ final class KeepBounds {
         x.stay(0);
         x.seed(7);
         x.note(-1, 0, 0);
+        x.note(0, 2, -1);
         Texts.sky(x, "sky 6 60;pen 35 0");
         x.day();
         x.feed(0, 0, 0, 0, 0);
         b.due("the DAY", 2, x.back(0));
         countsAre("as it was", x, 2, 3, 3, 2, 3, 1, 2, 1, 2, 1, 4, 1, 4, 5, 20);
         b.due("its NOTE", 2, x.ruled(0));
+        b.due("its NOTE", -1, x.ruled(1));
         b.due("BEND can be UNDONE", 3, x.undo());
         b.due("how STIFF it was", 9, x.pen(0, 1));
         b.due("the DAY can be UNDONE", 2, x.undo());

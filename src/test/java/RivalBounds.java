@@ -1,5 +1,9 @@
 /** Promises 22 to 25 and 30: games, rests, pence, what to read, rain. */
 final class RivalBounds {
+    // x becomes 65536 * 30 of the one, and 1 less of the other.
+    private static final int SEED_OF_30 = 307078787;
+    private static final int SEED_BELOW_30 = 596884254;
+
     private final Bounds b;
 
     private RivalBounds(Bounds b) {
@@ -27,6 +31,7 @@ final class RivalBounds {
     private void restsAndPence() {
         b.test(23, "RESTS of two PENS for n DAYS (1 to 20)", this::restDays);
         b.test(23, "each is as STIFF as 0, 3, 6 or 9 from now on", this::restStiff);
+        b.test(23, "twos by which neither would have more by another one: how many", this::restTwos);
         b.test(23, "the first (by the first one, then the second one).", this::restFirst);
         b.test(23, "RESTS what 0: how many, 1, 2: how STIFF by the first (-2: there is none). NONE without these (unlike).",
             this::noRest);
@@ -73,6 +78,13 @@ final class RivalBounds {
         gameIs("2", x, 2, 0, -1);
         gameIs("3", x, 3, 1, -1);
         gameIs("4", x, 4, -1, -1);
+        gameIs("in 36 CELLS", Bounds.told("sky 6 9;pen 0 9;pen 35 9"), 1, 1, -1);
+        x = Bounds.told("sky 3 60;pen 0 9;pen 8 9");
+        for (int cell : new int[] {1, 3, 0}) {
+            x.set(0, cell);
+            x.day();
+        }
+        gameIs("3, by way of its own STROKE", x, 3, 2, 1);
         b.refusedOutside(1, 4, -1000, (y, n) -> y.game(0, 1, n, 0));
         b.refusedOutside(1, 4, -1000, (y, n) -> y.game(0, 1, n, 1));
     }
@@ -158,7 +170,30 @@ final class RivalBounds {
             int stiffer = 3 - force / 3;
             int least = force / 3 * 3 + 3;
             restsAre("FORCE " + force, x, 1, stiffer == 0 ? 16 : stiffer * 4, stiffer == 0 ? 0 : least, 0);
+            b.due("FORCE " + force + ", the second", stiffer == 0 ? 0 : least, x.rests(1, 0, 1, 2));
+            // The first goes on and writes in two CELLS, if it is not STIFFER.
+            x = Bounds.told("sky 3 60;pen 0 9;pen 8 9;wind 1 " + force);
+            restsAre("on by FORCE " + force, x, 2, 16 - stiffer * 4, 0, 0);
+            b.due("on by FORCE " + force + ", the second", 16 - stiffer * 4, x.rests(1, 0, 2, 0));
         }
+        restsAre("each has one", Bounds.told("sky 2 1;pen 0 0;pen 3 0;wind 1 9"), 20, 16, 0, 0);
+    }
+
+    /** By 0 or 3 a PEN goes each DAY, by 6 or 9 on the second alone. */
+    private static SkySpire chase() {
+        return Bounds.by("sky 4 5;pen 2 9;pen 3 9;wind 3 3;wind 3 9", "write column+pen");
+    }
+
+    private void restTwos() {
+        // Both go: 1 and 1; the second alone: they clap; the first alone: 1 and 1; neither: 1 and 1.
+        restsAre("one DAY", chase(), 1, 12, 0, 0);
+        b.due("one DAY, the other way round", 12, chase().rests(1, 0, 1, 0));
+        // Both go: 1 and 2; the second alone: they clap; the first alone: 2 and 2; neither: 1 and 2.
+        restsAre("two DAYS", chase(), 2, 8, 0, 0);
+        b.due("two DAYS, the other way round", 8, chase().rests(1, 0, 2, 0));
+        // Both go: 0 and 3; the second alone: 1 and 1; the first alone: 2 and 2; neither: 1 and 2.
+        restsAre("three DAYS", chase(), 3, 0, -2, -2);
+        b.due("three DAYS, the other way round", 0, chase().rests(1, 0, 3, 0));
     }
 
     private void restFirst() {
@@ -169,9 +204,7 @@ final class RivalBounds {
     }
 
     private void noRest() {
-        // Each would rather go when the other does not: of 4 twos none is a rest.
-        SkySpire x = Bounds.by("sky 4 5;pen 2 9;pen 3 9;wind 3 3;wind 3 9", "write column+pen");
-        restsAre("there is none", x, 3, 0, -2, -2);
+        restsAre("there is none", chase(), 3, 0, -2, -2);
         b.refusedOutside(0, 2, -1, (y, one) -> y.rests(one, 1, 1, 0));
         b.refusedOutside(0, 2, -1, (y, other) -> y.rests(1, other, 1, 0));
         b.refusedOutside(0, 2, -1, (y, what) -> y.rests(0, 1, 1, what));
@@ -200,6 +233,7 @@ final class RivalBounds {
         x = Bounds.told("sky 6 60;pen 35 9");
         x.day();
         penceAre("9999 to one", x, 9999, 9999);
+        b.refusedOutside(0, 9999, -1, (y, much) -> y.pence(much, 0));
         b.refusedOutside(0, 9999, -1, (y, much) -> y.pence(much, 1));
     }
 
@@ -270,6 +304,8 @@ final class RivalBounds {
         x = Bounds.told("sky 6 9;pen 35 9");
         Texts.rule(x, "write 0");
         readIs("the last of 36", x, 1, 35, 1);
+        x = Bounds.by("sky 6 9" + ";pen 0 9".repeat(4) + ";pen 35 9", "write 1 if pen=4");
+        readIs("the last PEN's in the last of 36, alike", x, 1, 0, 2);
     }
 
     private void noRead() {
@@ -345,6 +381,10 @@ final class RivalBounds {
         b.due("of 2147483646: 59 is not below 59", 0, full(2147483646).rains(1, 1, 59, 0));
         b.due("of 2147483646: 59 is below 60", 1, full(2147483646).rains(1, 1, 60, 0));
         b.due("0 at first", 0, new SkySpire().count(13));
+        b.due("x 65536 * 30 - 1: 29 is not below 29", 0, full(SEED_BELOW_30).rains(1, 1, 29, 0));
+        b.due("x 65536 * 30 - 1: 29 is below 30", 1, full(SEED_BELOW_30).rains(1, 1, 30, 0));
+        b.due("x 65536 * 30: 30 is not below 30", 0, full(SEED_OF_30).rains(1, 1, 30, 0));
+        b.due("x 65536 * 30: 30 is below 31", 1, full(SEED_OF_30).rains(1, 1, 31, 0));
         // From 0 the DRAWS are 0, 21468, 9988, 22117, 3498, 16927, 16045, 19741: CELLS 0, 1, 3, 1.
         b.due("3 DAYS from 0", 3, full(0).rains(1, 3, 100, 0));
         b.due("4 DAYS from 0: one again", 3, full(0).rains(1, 4, 100, 0));

@@ -118,6 +118,7 @@ final class RuleBounds {
         good("write 1" + times(" ", 393));
         good(times(" ", 393) + "write 1");
         fault("write" + times(" ", 395), 400, 0);
+        fault(times("[", 400), 0, 0);
         writes(true, times("write 0 if 1=2;", 11) + "write 1");
         writes(false, times("write 1 if 1=2;", 11) + "write 0");
     }
@@ -137,6 +138,11 @@ final class RuleBounds {
         good("write 1 if [[[[[[[[[[1=1] and [1=1]]]]]]]]]]");
         good("write 1 if not [not [not [not [not [1=1]]]]]");
         fault("write 1 if not [not [not [not [not [not 1=1]]]]]", 36, 2);
+        // As much at once as 60 VALUES and FACTS can keep open.
+        String open = times("1=2 or 1=1 and [", 9);
+        holds(true, open + "1=0+1*1" + times("]", 9));
+        holds(false, open + "1=0+1*2" + times("]", 9));
+        fault("write 1 if " + open + "1=0+1*1*1" + times("]", 9), 11 + 144 + 8, 3);
     }
 
     private void values() {
@@ -151,6 +157,11 @@ final class RuleBounds {
         good("write day" + times("*day", 59));
         fault("write day" + times("*day", 60), 6 + 240, 3);
         good("write " + ones(53) + " if not 1=1 and [[[1=1]]];write 1");
+        SkySpire x = new SkySpire();
+        b.due("one RULE", 0, Texts.rule(x, "write " + ones(60)));
+        b.due("of another as many", 1, Texts.rule(x, "write " + ones(60)));
+        b.due("too many", Texts.fault(126, 3), Texts.rule(x, "write " + ones(61)));
+        b.due("behind a FAULT as many", 2, Texts.rule(x, "write " + ones(60)));
     }
 
     private void digits() {
@@ -163,6 +174,9 @@ final class RuleBounds {
         holds(true, "00007=7");
         fault("write 1 2", 8, 0);
         holds(true, "12=3*4");
+        fault("write :", 6, 0);
+        fault("write 1:", 7, 0);
+        fault("write /", 6, 0);
     }
 
     private void words() {
@@ -174,6 +188,10 @@ final class RuleBounds {
         fault("write da", 6, 0);
         fault("write dayif 1=1", 6, 0);
         fault("write 1 ifnot 1=1", 8, 0);
+        fault("write daya", 6, 0);
+        fault("write dayz", 6, 0);
+        fault("write day`", 9, 0);
+        fault("write day{", 9, 0);
         fault("write dAy", 6, 0);
         fault("write dayA", 9, 0);
     }
@@ -249,6 +267,11 @@ final class RuleBounds {
             holds(i < 2, "4" + signs[i] + "5");
             holds(i > 0 && i < 4, "5" + signs[i] + "5");
             holds(i > 2, "6" + signs[i] + "5");
+            holds(i >= 2, "not 4" + signs[i] + "5");
+            holds(i == 0 || i == 4, "not 5" + signs[i] + "5");
+            holds(i <= 2, "not 6" + signs[i] + "5");
+            holds(i < 2, "1=1 and 4" + signs[i] + "5");
+            holds(i > 2, "1=1 and 6" + signs[i] + "5");
         }
         fault("write 1 if 1==1", 13, 0);
         fault("write 1 if 1=<1", 13, 0);
@@ -350,6 +373,16 @@ final class RuleBounds {
         b.due("none", 1, x.day());
         b.due("there yet", 0, x.day());
         b.due("faded", 1, x.day());
+        x = Bounds.told("sky 3 60;pen 0 0;pen 8 9;wind 1 0");
+        x.day();
+        x.day();
+        Texts.rule(x, "write 1 if ink=2");
+        Texts.rule(x, "write 1 if ink=1");
+        x.force(0);
+        b.due("two", 1, x.day());
+        x.undo();
+        x.force(1);
+        b.due("one in the same CELL", 2, x.day());
     }
 
     private void here() {
@@ -367,6 +400,12 @@ final class RuleBounds {
             b.due("by RULE " + rule, rule % 2 == 0 ? 3 : 2, x.day());
             x.undo();
         }
+        x.force(Texts.rule(x, "write 1 if here=0"));
+        b.due("not here", 4, x.day());
+        x.undo();
+        x.force(Texts.rule(x, "write 1 if mine=0"));
+        b.due("not mine", 5, x.day());
+        x.undo();
         x.blot(1);
         x.force(0);
         b.due("BLOTTED", 0, x.day());
@@ -410,6 +449,7 @@ final class RuleBounds {
         fault("write 1 if [1=1;", 15, 0);
         fault("write 1 if not;", 14, 0);
         fault("write 1" + (char) 255, 7, 0);
+        fault("write " + (char) 255, 6, 0);
         fault("write 1" + (char) 0, 7, 0);
     }
 

@@ -9,6 +9,8 @@ final class SkyBounds {
     static void run(Bounds b) {
         SkyBounds s = new SkyBounds(b);
         b.test(1, "No SKY, no RULES, none IN FORCE.", s::nothingAtFirst);
+        b.test(1, "`NONE = -1`: None.", () -> b.due("NONE", -1, SkySpire.NONE));
+        b.test(1, "An object is used for at most 512 calls after it has been made", s::lastCall);
         s.tape();
         s.amounts();
         s.begin();
@@ -87,6 +89,18 @@ final class SkyBounds {
         b.due("no IMAGE", -1, x.back(0));
     }
 
+    private void lastCall() {
+        SkySpire x = new SkySpire();
+        x.feed(0x736b7920, 0x32203630, 0x3b70656e, 0x20332039, 0x3b6d6172);
+        x.feed(0x6b203320, 0, 0, 0, 0);
+        x.end(23);
+        b.due("sky 2 60;pen 3 9;mark 3, call 4", 1, x.sky());
+        for (int call = 5; call < 512; call++) {
+            x.day();
+        }
+        b.due("SIGN, call 512", 507, x.sign());
+    }
+
     // ---- promises 2 and 3
 
     private void twenty() {
@@ -151,6 +165,13 @@ final class SkyBounds {
         b.due("0", 0, x.end(0));
         b.due("empty", 0, x.count(14));
         b.due("behind them", 20, x.feed(0, 0, 0, 0, 0));
+        Texts.tape(x, "sky 2 60");
+        x.end(7);
+        b.due("a NUMBER cut short", 0, x.sky());
+        b.due("FADES 6", 6, x.count(1));
+        Texts.tape(x, "sky 2 6;marks 0");
+        x.end(12);
+        b.due("a WORD cut short", Texts.fault(12, 0), x.sky());
     }
 
     private void notSoMany() {
@@ -175,6 +196,8 @@ final class SkyBounds {
         fault("sky 2" + times(" ", 395), 400, 0);
         fault("sky 2 1" + times(" ", 392) + ";", 400, 0);
         fault("sky 2 1" + times(" ", 392) + "1", 399, 0);
+        fault(times(";", 400), 0, 0);
+        fault("sky 2 1" + times(";", 393), 8, 0);
         SkySpire x = new SkySpire();
         Texts.tape(x, "sky 2 1" + times(" ", 393));
         b.due("a byte beyond does not come", -1, x.feed(0, 0, 0, 0, 0));
@@ -338,6 +361,9 @@ final class SkyBounds {
         good("sky2 1;pen00003 00009;mark00003", 1);
         fault("sky 2 1;pen 000003 9", 12, 1);
         fault("sky 2 1;mark 99999", 13, 1);
+        fault("sky 2 1;mark /", 13, 0);
+        fault("sky 2 1;mark :", 13, 0);
+        fault("sky 2 1:", 7, 0);
     }
 
     private void words() {
@@ -348,6 +374,10 @@ final class SkyBounds {
         fault("sky 2 1;win 0 0", 8, 0);
         fault("sky 2 1;windy 0 0", 8, 0);
         fault("sky 2 1;markmark 0", 8, 0);
+        fault("skya 2 1", 0, 0);
+        fault("skyz 2 1", 0, 0);
+        fault("sky` 2 1", 3, 0);
+        fault("sky{ 2 1", 3, 0);
         fault("skY 2 1", 0, 0);
         fault("skyY 2 1", 3, 0);
     }
