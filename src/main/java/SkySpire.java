@@ -581,7 +581,7 @@ public final class SkySpire {
         }
 
         void advance() {
-            if (token() != TOKEN_END) {
+            if (at >= 0 && at < MAX_TAPE && tokens[at] != TOKEN_END) {
                 at++;
             }
         }
